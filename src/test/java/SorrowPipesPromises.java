@@ -455,6 +455,11 @@ public final class SorrowPipesPromises {
         law(closed, "r0(1=1)");
         closed.minutes(1);
         due("a closed pipe", closed.cornerIs(1, 1), 0);
+        SorrowPipes behind = of("a-b9;c=30;c-d9;e=30;f-e9", "a+40;c+10;e+4;#0!");
+        law(behind, "r0(1=1)");
+        behind.minutes(1);
+        due("a pipe behind a closed one", behind.cornerIs(3, 1), 9);
+        due("from the height told second", behind.cornerIs(5, 1), 4);
         SorrowPipes like = of("a=20;a-b9", "a+5;b+24");
         law(like, "r0(1=1)");
         like.minutes(3);
@@ -466,6 +471,9 @@ public final class SorrowPipesPromises {
         law(x, "r0(1=1);x(c=1);o9(1=1)");
         due("b is frozen", x.minutes(1), 9);
         due("b", x.cornerIs(1, 1), 50);
+        law(x, "x(c=0);r0(1=1);o9(1=1)");
+        due("an x ahead of all", x.tried(1, 0), 9);
+        due("an x ahead of all: a", x.tried(1, 10), 41);
         law(x, "x(1=2);r0(1=1);o9(1=1);x(c=0)");
         due("any x will do", x.minutes(1), 9);
         due("a", x.cornerIs(0, 1), 41);
@@ -579,6 +587,8 @@ public final class SorrowPipesPromises {
         due("wept", x.cornerIs(0, 3), 4);
         due("no open pipes", x.cornerIs(3, 4), 0);
         due("to nobody", x.cornerIs(3, 5), 0);
+        due("by the first pipe", of("b-p1").cornerIs(1, 5), 1 << 15);
+        due("back by the first pipe", of("b-p1").cornerIs(15, 5), 2);
         due("what 6", x.cornerIs(0, 6), NONE);
         due("what -1", x.cornerIs(0, -1), NONE);
         for (int c : new int[] {-1, 4, 15, 16, Integer.MAX_VALUE, Integer.MIN_VALUE}) {
@@ -638,6 +648,9 @@ public final class SorrowPipesPromises {
         due("what 2", x.most(0, 3, 2), NONE);
         due("what -1", x.most(0, 3, -1), NONE);
         due("corner -1", x.most(-1, 3, 0), NONE);
+        SorrowPipes back = of("a-b1-c1-d1;a-e1-f1-c1;b-g1-h1-d1");
+        due("the shortest way must be given up", back.most(0, 3, 0), 2);
+        due("the shortest way must be given up: the side", back.most(0, 3, 1), 1);
         SorrowPipes y = of("a-b3-a4;b-c99");
         due("two pipes together", y.most(0, 2, 0), 7);
         due("two pipes together: the side", y.most(2, 0, 1), 6);
@@ -702,6 +715,8 @@ public final class SorrowPipesPromises {
         SorrowPipes none = of("a-b1-a1;c");
         due("none", none.bridges(0), 0);
         due("none: the lowest", none.bridges(1), -2);
+        due("the first", of("c-a1-b1-a2").bridges(1), 0);
+        due("only the first", of("c-a1-b1-a2").bridges(0), 1);
     }
 
     private static void brigades() {
@@ -741,9 +756,16 @@ public final class SorrowPipesPromises {
         due("a ladder round", of("a-b1-c1-d1-e1-f1-g1-h1-a1;i-j1-k1-l1-m1-n1-o1-p1-i1;"
                 + "a-i1;b-j1;c-k1;d-l1;e-m1;f-n1;g-o1;h-p1").painted(15), 32);
         due("the nearest pairs", of("a-b1-c1-d1-e1-a1;a-c1").painted(0), 7);
-        SorrowPipes x = of("a-b1-c1-a1", "#1!");
-        due("closed", x.painted(0), 4);
-        due("not told", x.painted(3), NONE);
+        SorrowPipes x = of("a-b1-c1-d1-e1-f1-g1");
+        due("6 there and back", x.painted(3), 12);
+        town(x, "a-b1-c1-a1");
+        orders(x, "#1!");
+        due("another town, closed", x.painted(0), 4);
+        town(x, "a-b1-c1-d1-e1-f1;b-g1;c-h1;d-i1;e-j1");
+        due("another town", x.painted(0), 18);
+        town(x, "a-b1-c1-d1-e1-f1-a1;a-c1;b-d1");
+        due("another town", x.painted(3), 10);
+        due("not told", x.painted(6), NONE);
         due("corner -1", x.painted(-1), NONE);
         due("corner 16", x.painted(16), NONE);
     }
@@ -779,6 +801,7 @@ public final class SorrowPipesPromises {
         due("ones alone: the lowest", alone.farthest(2), 2);
         due("no corners", new SorrowPipes().farthest(2), -2);
         due("no corners, no such what", new SorrowPipes().farthest(3), NONE);
+        due("corners between that are not told", of("a;c-d1").farthest(2), 3);
         due("of like ones the lowest, then the lowest other", of("b-a1;b-d1;b-c1").farthest(2), 2);
     }
 
@@ -812,6 +835,8 @@ public final class SorrowPipesPromises {
         due("no corners", new SorrowPipes().highest(1), -2);
         due("all at 0", of("e;f").highest(0), 4);
         due("all at 0", of("e;f").highest(1), 0);
+        due("a and p", of("a=5;p=4").highest(0), 0);
+        due("p and a", of("a=5;p=6").highest(0), 15);
     }
 
     private static void longest() {
@@ -885,6 +910,8 @@ public final class SorrowPipesPromises {
         due("nowhere", x.readings(1), -2);
         feedBytes(x, 1, 1, 0, 255);
         due("nowhere: bits", x.readings(0), 0);
+        feedBytes(x, 9, 9, 8, 7);
+        due("one more", x.readings(1), 1);
         SorrowPipes none = new SorrowPipes();
         feedBytes(none, 2, 1);
         due("no corner is told", none.readings(0), NONE);
@@ -926,6 +953,14 @@ public final class SorrowPipesPromises {
         due("12 fires, 6 brigades: the last", x.hose(12, 6, 11), 5);
         feedBytes(x, 3, 0, 9);
         due("one brigade", x.hose(3, 1, 100), 24);
+        feedBytes(x, 0, 0);
+        due("fires at the door", x.hose(1, 2, 100), 0);
+        feedBytes(x, 7);
+        due("one fire, one brigade", x.hose(1, 1, 0), 0);
+        feedBytes(x, far);
+        due("7 brigades", x.hose(4, 7, 100), NONE);
+        due("13 fires", x.hose(13, 5, 100), NONE);
+        due("the tape stays", x.count(6), 80);
     }
 
     private static void seed() {
@@ -1019,6 +1054,8 @@ public final class SorrowPipesPromises {
         due("check(4)", x.check(4), 2);
         feedBytes(x, 3, 255);
         due("check(2)", x.check(2), 1);
+        feedBytes(x, 4, 255);
+        due("the first that is not so", x.check(2), 0);
         feedBytes(x, 3, 0, 0, 8);
         due("no more than n", x.check(2), NONE);
         feedBytes(x, 9);
