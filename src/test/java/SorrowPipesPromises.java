@@ -1,9 +1,5 @@
 /** For each promise of the document calls whose answers are due by its words: ordinary ones, edges, wrong ones. */
-public final class SorrowPipesPromises {
-    private static final int NONE = -1;
-    private static int wrong = 0;
-    private static int promise = 0;
-
+public final class SorrowPipesPromises extends Dues {
     public static void main(String[] args) {
         aNewObject();
         feed();
@@ -37,79 +33,11 @@ public final class SorrowPipesPromises {
         keepAndUndo();
         check();
         count();
-        System.out.println(wrong == 0 ? "all promises hold" : wrong + " answers are not as due");
-        if (wrong != 0) {
-            System.exit(1);
-        }
+        end("all promises hold");
     }
-
-    // ---- means
-
-    private static void due(String call, int got, int want) {
-        if (got != want) {
-            wrong++;
-            System.out.println("promise " + promise + ": " + call + " answered " + got + ", due is " + want);
-        }
-    }
-
-    private static void due(String call, boolean got, boolean want) {
-        due(call, got ? 1 : 0, want ? 1 : 0);
-    }
-
-    private static void feedText(SorrowPipes x, String text) {
-        for (int i = 0; i < text.length(); i += 20) {
-            int[] words = new int[5];
-            for (int j = 0; j < 20; j++) {
-                int b = i + j < text.length() ? text.charAt(i + j) : 0;
-                words[j / 4] |= b << 24 - 8 * (j % 4);
-            }
-            x.feed(words[0], words[1], words[2], words[3], words[4]);
-        }
-    }
-
-    private static void feedBytes(SorrowPipes x, int... bytes) {
-        StringBuilder text = new StringBuilder();
-        for (int b : bytes) {
-            text.append((char) b);
-        }
-        feedText(x, text.toString());
-    }
-
-    private static int law(SorrowPipes x, String text) {
-        feedText(x, text);
-        return x.law(text.length());
-    }
-
-    private static int town(SorrowPipes x, String text) {
-        feedText(x, text);
-        return x.town(text.length());
-    }
-
-    private static int orders(SorrowPipes x, String text) {
-        feedText(x, text);
-        return x.orders(text.length());
-    }
-
-    private static SorrowPipes of(String town) {
-        SorrowPipes x = new SorrowPipes();
-        due("town " + town, town(x, town) >= 0, true);
-        return x;
-    }
-
-    private static SorrowPipes of(String town, String orders) {
-        SorrowPipes x = of(town);
-        due("orders " + orders, orders(x, orders) > 0, true);
-        return x;
-    }
-
-    private static int nextX(int x) {
-        return (int) ((25173L * x + 13849L) % 65536L);
-    }
-
-    // ---- promises
 
     private static void aNewObject() {
-        promise = 1;
+        promise(1);
         SorrowPipes x = new SorrowPipes();
         int[] counts = {0, 0, 0, 0, 9999, 0, 0, 1, 0, 0, 0};
         for (int i = 0; i < counts.length; i++) {
@@ -124,7 +52,7 @@ public final class SorrowPipesPromises {
     }
 
     private static void feed() {
-        promise = 2;
+        promise(2);
         SorrowPipes x = new SorrowPipes();
         for (int i = 1; i <= 13; i++) {
             due("feed " + i, x.feed(i, i, i, i, i), 20 * i);
@@ -144,7 +72,7 @@ public final class SorrowPipesPromises {
     }
 
     private static void law() {
-        promise = 3;
+        promise(3);
         Object[][] texts = {
             {"r1(1=1)", 1}, {"x(1=1);r2(1<2);ow(w>3)", 3}, {"r12345(1=1)", 1}, {"r[[1]+2]*3(1=1|2=2&3=3)", 1},
             {"q", -1000}, {";", -1000}, {"a1(1=1)", -1000}, {"r", -1001}, {"r(1=1)", -1001}, {"r1", -1002},
@@ -210,7 +138,7 @@ public final class SorrowPipesPromises {
     }
 
     private static void lawReckoned() {
-        promise = 3;
+        promise(3);
         rises("o3(1=1)", 1);
         rises("r7*3-2*5(1=1)", 11);
         rises("r20/3*3(1=1)", 18);
@@ -259,7 +187,7 @@ public final class SorrowPipesPromises {
     }
 
     private static void lawLetters() {
-        promise = 3;
+        promise(3);
         SorrowPipes x = of("a;b=12;a-b1;b-a2;b-c3;d", "b+30;b@5;a+7;c+44;d+90");
         String[] sums = {"c", "h", "s", "u", "n", "m", "q", "a", "t"};
         int[] wants = {1, 12, 30, 5, 3, 44, 0, 99, 0};
@@ -290,7 +218,7 @@ public final class SorrowPipesPromises {
     }
 
     private static void town() {
-        promise = 4;
+        promise(4);
         Object[][] texts = {
             {"a", 0}, {"p", 0}, {"a=7", 0}, {"a=99", 0}, {"a=0", 0}, {"a;a;b", 0}, {"a-b1", 1}, {"a-b99-c05;d", 2},
             {"a-b1-a1", 2}, {"q", -1000}, {"A", -1000}, {"`", -1000}, {"ab", -1001}, {"a=", -1002}, {"a=x", -1002},
@@ -353,7 +281,7 @@ public final class SorrowPipesPromises {
     }
 
     private static void orders() {
-        promise = 5;
+        promise(5);
         Object[][] texts = {
             {"a@8", 1}, {"a@0", 1}, {"a+9999;a-1", 2}, {"#0!", 1}, {"#00?", 1}, {"#1?", 1}, {"~0", 1}, {"~999999", 1},
             {"a", -1001}, {"q@1", -1000}, {"d@1", -7000}, {"d", -7000}, {"a@", -1002}, {"a@9", -1002}, {"a@12", -1003},
@@ -406,7 +334,7 @@ public final class SorrowPipesPromises {
     }
 
     private static void minutes() {
-        promise = 6;
+        promise(6);
         SorrowPipes x = of("a=10;b=0;a-b4", "a+100;b@2");
         law(x, "r3(1=1);o5(1=1)");
         // a 103, b 3; a gives 4 (less than half of 110); b has 7 and gives 7 of 10
@@ -508,7 +436,7 @@ public final class SorrowPipesPromises {
     }
 
     private static void minutesAtTheirBounds() {
-        promise = 6;
+        promise(6);
         SorrowPipes x = of("a", "a@1;~5");
         law(x, "r3(1=1);o0(1=1)");
         x.minutes(2);
@@ -550,7 +478,7 @@ public final class SorrowPipesPromises {
     }
 
     private static void tried() {
-        promise = 7;
+        promise(7);
         SorrowPipes x = of("a=10;b=0;a-b4;d", "a+100;b@2");
         law(x, "r3(1=1);o5(1=1)");
         due("what 0", x.tried(1, 0), 7);
@@ -576,7 +504,7 @@ public final class SorrowPipesPromises {
     }
 
     private static void cornerIs() {
-        promise = 8;
+        promise(8);
         SorrowPipes x = of("a=5;a-b1-a2;a-d3;c", "a+17;a@4;#2!");
         int[] wants = {5, 17, 4, 0, 2, 2};
         for (int what = 0; what < 6; what++) {
@@ -597,7 +525,7 @@ public final class SorrowPipesPromises {
     }
 
     private static void pipeIs() {
-        promise = 9;
+        promise(9);
         SorrowPipes x = of("c-a7-p99", "#0!");
         int[][] wants = {{2, 0, 7, 0}, {0, 15, 99, 1}};
         for (int p = 0; p < 2; p++) {
@@ -613,7 +541,7 @@ public final class SorrowPipesPromises {
     }
 
     private static void dry() {
-        promise = 10;
+        promise(10);
         SorrowPipes x = of("a;b", "a+20;a@3");
         law(x, "r0(1=1);o2(1=1)");
         due("20 by 6", x.dry(0, 100), 4);
@@ -631,7 +559,7 @@ public final class SorrowPipesPromises {
     }
 
     private static void most() {
-        promise = 11;
+        promise(11);
         SorrowPipes x = of("a-b5-d4;a-c3-d9;b-c2;e-f7;g");
         due("most(0, 3, 0)", x.most(0, 3, 0), 8);
         due("most(3, 0, 0)", x.most(3, 0, 0), 8);
@@ -657,7 +585,7 @@ public final class SorrowPipesPromises {
     }
 
     private static void cut() {
-        promise = 12;
+        promise(12);
         SorrowPipes x = of("a-b50-c50-d50;a-b1;a-c99;e");
         due("cut(0, 1)", x.cut(0, 1), 3);
         due("cut(0, 2)", x.cut(0, 2), 2);
@@ -671,7 +599,7 @@ public final class SorrowPipesPromises {
     }
 
     private static void widest() {
-        promise = 13;
+        promise(13);
         SorrowPipes x = of("a-b5-c9;a-c4;d-e99");
         due("widest(0, 2)", x.widest(0, 2), 5);
         due("widest(2, 0)", x.widest(2, 0), 5);
@@ -688,7 +616,7 @@ public final class SorrowPipesPromises {
     }
 
     private static void steps() {
-        promise = 14;
+        promise(14);
         SorrowPipes x = of("a-b1-c1-d1-e1;a-d1;f");
         due("steps(0, 4)", x.steps(0, 4), 2);
         due("steps(4, 0)", x.steps(4, 0), 2);
@@ -703,7 +631,7 @@ public final class SorrowPipesPromises {
     }
 
     private static void bridges() {
-        promise = 15;
+        promise(15);
         SorrowPipes x = of("a-b1-c1-a1;c-d1;d-e1-d1;f-g1");
         due("how many", x.bridges(0), 2);
         due("the lowest", x.bridges(1), 3);
@@ -720,7 +648,7 @@ public final class SorrowPipesPromises {
     }
 
     private static void brigades() {
-        promise = 16;
+        promise(16);
         SorrowPipes x = of("a-b1-c1-d1-e1-f1-g1");
         int[] stepsDue = {3, 2, 1, 1, 1};
         int[] bitsDue = {1 << 3, 1 | 1 << 4, 1 | 1 << 2 | 1 << 5, 1 | 2 | 4 | 1 << 5, 1 | 2 | 4 | 8 | 1 << 5};
@@ -744,7 +672,7 @@ public final class SorrowPipesPromises {
     }
 
     private static void painted() {
-        promise = 17;
+        promise(17);
         due("a ring", of("a-b1-c1-a1").painted(1), 3);
         due("there and back", of("a-b1-c1").painted(2), 4);
         due("two pipes between two", of("a-b1-a9").painted(0), 2);
@@ -771,7 +699,7 @@ public final class SorrowPipesPromises {
     }
 
     private static void keptOpen() {
-        promise = 18;
+        promise(18);
         SorrowPipes x = of("a-b1-c5-a3;d-e9-d8;f");
         due("keptOpen()", x.keptOpen(), 5 + 3 + 9);
         orders(x, "#1!;#3!");
@@ -782,7 +710,7 @@ public final class SorrowPipesPromises {
     }
 
     private static void farthest() {
-        promise = 19;
+        promise(19);
         SorrowPipes x = of("d-a1-b1-e1;c-f1-g1-h1;i");
         int[] wants = {3, 2, 7};
         for (int what = 0; what < 3; what++) {
@@ -806,7 +734,7 @@ public final class SorrowPipesPromises {
     }
 
     private static void ring() {
-        promise = 20;
+        promise(20);
         SorrowPipes x = of("a-b1-c1-d1-a1;a-c1;d-e1;e-f1-e1;g");
         due("ring(0)", x.ring(0), 3);
         due("ring(3)", x.ring(3), 3);
@@ -822,7 +750,7 @@ public final class SorrowPipesPromises {
     }
 
     private static void highest() {
-        promise = 21;
+        promise(21);
         SorrowPipes x = of("b=10;c=40;d=50", "c+10;b+39");
         due("of like ones the lowest", x.highest(0), 2);
         due("how high", x.highest(1), 50);
@@ -840,7 +768,7 @@ public final class SorrowPipesPromises {
     }
 
     private static void longest() {
-        promise = 22;
+        promise(22);
         SorrowPipes x = of("c-a1-b1-d1;b-e1;f");
         due("longest(2, 0)", x.longest(2, 0), 3);
         due("of like ones the lowest", x.longest(2, 1), 3);
@@ -867,7 +795,7 @@ public final class SorrowPipesPromises {
     }
 
     private static void byEighths() {
-        promise = 23;
+        promise(23);
         due("1 and 2 to 4", byEighths(4, 0, 1, 2), 3);
         due("the fewest", byEighths(4, 1, 1, 2), 2);
         due("all that can be", byEighths(16320, 0, 255, 255, 255, 255, 255, 255, 255, 255), 1);
@@ -892,7 +820,7 @@ public final class SorrowPipesPromises {
     }
 
     private static void readings() {
-        promise = 24;
+        promise(24);
         int[] bytes = {9, 4, 250, 5, 3, 200, 7, 7, 255, 10};
         int[] wants = {1 << 1 | 1 << 3 | 1 << 15, 3, 5 + 245 + 245};
         for (int what = 0; what < 3; what++) {
@@ -925,7 +853,7 @@ public final class SorrowPipesPromises {
     }
 
     private static void hose() {
-        promise = 25;
+        promise(25);
         // fires by rows: 5 1 / 1 9 / 2 2 / 0 9
         int[] bytes = {5, 1, 1, 9, 2, 2, 0, 9};
         // fire 0: brigade 1 by 2; fire 1: 0 by 2; fire 2: both by 6, so 0; fire 3: 0 by 6
@@ -964,7 +892,7 @@ public final class SorrowPipesPromises {
     }
 
     private static void seed() {
-        promise = 26;
+        promise(26);
         SorrowPipes x = of("a");
         due("seed(65535)", x.seed(65535), true);
         due("X", x.count(7), 65535);
@@ -979,7 +907,7 @@ public final class SorrowPipesPromises {
     }
 
     private static void keepAndUndo() {
-        promise = 27;
+        promise(27);
         SorrowPipes x = of("a=3;a-b1-c2;d", "a+50;c+9;c@2;#1!;~800");
         x.seed(9);
         x.minutes(3);
@@ -987,12 +915,12 @@ public final class SorrowPipesPromises {
         int sea = x.count(4);
         int sorrow = x.count(8);
         int wept = x.cornerIs(2, 3);
-        promise = 28;
+        promise(28);
         due("undo() of none kept", x.undo(), false);
-        promise = 27;
+        promise(27);
         due("keep()", x.keep(), 3);
         due("keep() changes nothing", x.count(7), drawn);
-        promise = 28;
+        promise(28);
         x.minutes(10);
         orders(x, "#1?;#0!;a@8;~5;d+7");
         law(x, "r7(1=1)");
@@ -1008,7 +936,7 @@ public final class SorrowPipesPromises {
         due("closed", x.pipeIs(1, 3), 0);
         due("the law is not undone", x.count(5), 1);
         undoInAnotherTown(x, sorrow);
-        promise = 27;
+        promise(27);
         orders(x, "~1");
         due("keep() again", x.keep(), 3);
         orders(x, "~2");
@@ -1044,7 +972,7 @@ public final class SorrowPipesPromises {
     }
 
     private static void check() {
-        promise = 29;
+        promise(29);
         SorrowPipes x = of("a;b;d", "a@3;d@8");
         int[] right = {3, 0, 255, 8, 255, 255, 255, 255, 255, 255, 255, 255, 255, 255, 255, 255};
         feedBytes(x, right);
@@ -1069,7 +997,7 @@ public final class SorrowPipesPromises {
     }
 
     private static void count() {
-        promise = 30;
+        promise(30);
         SorrowPipes x = of("a-b1-c1;d-e1;g", "a+5;d+6;d@1;#1!;~700");
         law(x, "r0(1=1);x(1=2)");
         x.seed(3);
