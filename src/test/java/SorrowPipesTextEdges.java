@@ -164,13 +164,15 @@ public final class SorrowPipesTextEdges extends Dues {
         lawAt("x(1=s", SIGNS + "&|", -1006, ")", 1);
     }
 
-    /** Each beginning of a text that is not whole by itself has its fault at its end. */
+    /** Each beginning of a text that is not whole by itself has its fault at its end, whatever the tape has behind it. */
     private static void lawEnds() {
         says(3, "FAULTS, the first from the left: 1 what can't stand there (the end, too); 2 a sixth digit, at it");
         String text = "r[s+12]*3(!(c=1)|s<5&m>2);x(1=1);o5%u(1=1)";
         for (int n = 1; n <= text.length(); n++) {
             int rules = n == 25 ? 1 : n == 32 ? 2 : n == text.length() ? 3 : -1000 - n;
-            due("law " + text.substring(0, n), law(new SorrowPipes(), text.substring(0, n)), rules);
+            SorrowPipes x = new SorrowPipes();
+            feedText(x, text);
+            due("law " + text.substring(0, n), x.law(n), rules);
         }
     }
 
@@ -348,7 +350,9 @@ public final class SorrowPipesTextEdges extends Dues {
         String text = "a=12;b-c12-d3;e";
         int[] wants = {0, -1002, 0, 0, -1005, 0, -1007, -1008, 1, 1, -1011, -1012, 2, -1014, 2};
         for (int n = 1; n <= text.length(); n++) {
-            due("town " + text.substring(0, n), town(new SorrowPipes(), text.substring(0, n)), wants[n - 1]);
+            SorrowPipes x = new SorrowPipes();
+            feedText(x, text);
+            due("town " + text.substring(0, n), x.town(n), wants[n - 1]);
         }
     }
 
@@ -590,7 +594,9 @@ public final class SorrowPipesTextEdges extends Dues {
         String text = "a@8;b+12;#01!;~77";
         int[] wants = {-1001, -1002, 1, -1004, -1005, -1006, 2, 2, -1009, -1010, -1011, -1012, 3, -1014, -1015, 4, 4};
         for (int n = 1; n <= text.length(); n++) {
-            due("orders " + text.substring(0, n), orders(of("a-b1-c2"), text.substring(0, n)), wants[n - 1]);
+            SorrowPipes x = of("a-b1-c2");
+            feedText(x, text);
+            due("orders " + text.substring(0, n), x.orders(n), wants[n - 1]);
         }
     }
 
