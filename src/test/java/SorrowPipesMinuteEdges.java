@@ -158,7 +158,8 @@ public final class SorrowPipesMinuteEdges extends Dues {
             {"1=1|1=1&1=2", true}, {"1=2&1=1|1=1", true}, {"1=1&1=2|1=2&1=1", false}, {"(1=1|1=1)&1=2", false},
             {"1=2|1=2|1=1", true}, {"1=1&1=1&1=2", false}, {"!1=2&1=2", false}, {"!(1=2&1=2)", true}, {"!1=1|1=1", true},
             {"!(1=1|1=1)", false}, {"!!1=1", true}, {"!!!1=1", false}, {"1<1", false}, {"1>1", false}, {"1<2", true},
-            {"2<1", false}, {"2>1", true}, {"1>2", false}, {"2=1", false}, {"0-1<0", true}, {"0-1>0", false},
+            {"2<1", false}, {"2>1", true}, {"1>2", false}, {"2=1", false}, {"0-1<0", true}, {"0-1>0", false}, {"!1<2", false}, {"!2>1", false},
+            {"!1>2", true}, {"!2<1", true}, {"!!1<2", true}, {"!!2>1", true},
         };
         for (Object[] each : conditions) {
             due("(" + each[0] + ")", of("a", "~99", "r9(" + each[0] + ");r0(1=1)").tried(1, 10), (Boolean) each[1] ? 9 : 0);
@@ -178,6 +179,7 @@ public final class SorrowPipesMinuteEdges extends Dues {
             {"65536*32767+65535", 99}, {"65536*32767+65535+1", 0}, {"[65536*32767+65535+1]/[0-1]", 0},
             {"[65536*32767+65535+1]%[0-1]+7", 7}, {"65536*65536+5", 5}, {"[0-65536*32768]-1", 99}, {"[0-7]/2+10", 7},
             {"[0-7]%4+10", 7}, {"7%[0-4]+10", 13}, {"7/[0-2]+10", 7}, {"99999*99999/10000/10000", 14},
+            {"9/1", 9}, {"9%1+5", 5}, {"[0-9]/[0-1]", 9}, {"9/[0-1]+20", 11}, {"[0-9]%[0-1]+5", 5}, {"0/9+5", 5},
         };
         for (Object[] each : sums) {
             due("r" + each[0], riseBy((String) each[0]), (Integer) each[1]);
@@ -203,7 +205,8 @@ public final class SorrowPipesMinuteEdges extends Dues {
     private static void asMuchAsMatters() {
         says(3, "Of a C as much is asked, from the left, as matters.");
         for (String c : new String[] {"1=1|1/0=1", "1=2&1/0=1|1=1", "1=1|1=1&1/0=1", "!(1=2&1/0=1)", "(1=1|1/0=1)&1=1",
-            "1=2|1=1|1/0=1", "1=2&1/0=1&1/0=1|1=1", "!(!(1=1|1/0=1))", "1=2&(1/0=1|1/0=1)|1=1", "(1=2&1/0=1)|1=1"}) {
+            "1=2|1=1|1/0=1", "1=2&1/0=1&1/0=1|1=1", "!(!(1=1|1/0=1))", "1=2&(1/0=1|1/0=1)|1=1", "(1=2&1/0=1)|1=1", "1<2|1/0=1",
+            "2>1|1/0=1", "2<1&1/0=1|1=1", "1>2&1/0=1|1=1", "!1=2|1/0=1", "!1<2&1/0=1|1=1"}) {
             due("r5(" + c + ")", of("a", "~99", "r5(" + c + ");r7(1=1)").tried(1, 10), 5);
         }
         for (String c : new String[] {"1=1&1/0=1|1=1", "1=2|1/0=1|1=1", "(1=2|1/0=1)|1=1", "1=1&1=1&1/0=1|1=1"}) {
@@ -231,6 +234,7 @@ public final class SorrowPipesMinuteEdges extends Dues {
 
         says(3, "m the most SORROW of those its OPEN PIPES go to (none: 0)");
         due("m, none open", atB(x, "m"), 0);
+        due("m, none open, is 0 and no less", atB(x, "m+5"), 5);
         orders(x, "#0?");
         due("m, to a alone (not b's own)", atB(x, "m"), 7);
         orders(x, "#2?");
@@ -247,6 +251,10 @@ public final class SorrowPipesMinuteEdges extends Dues {
         due("u of 0", atB(of("b"), "9-u"), 9);
         law(y, "rc(c=15);r50(c=0);r0(1=1)");
         due("c of p", y.tried(1, 25), 15);
+        SorrowPipes z = of("a=1;b=2;p=3", "a+50;b+50;p+50;a@1;b@1;p@2", "r0(1=1);o10*h+c(c<9);o7(c=15);x(h=2)");
+        due("o asked of a", z.tried(1, 30), 10);
+        due("x asked of b", z.tried(1, 31), 0);
+        due("o asked of p", z.tried(1, 45), 14);
     }
 
     private static void letterAmounts() {

@@ -29,6 +29,7 @@ public final class SorrowPipesStreetEdges extends Dues {
         hosesRefused();
         questionsChangeNothing();
         onlyOpenPipes();
+        fullTown();
         areInDocument(args);
         end("the edges of streets hold");
     }
@@ -141,10 +142,17 @@ public final class SorrowPipesStreetEdges extends Dues {
         due("from the other end", line.most(3, 0, 1), 8 + 16);
         due("a wide one ahead", line.most(4, 0, 1), 8 + 16);
 
+        // the first way by b-c is taken back by the second one, and then c can be come to by b again
+        SorrowPipes back = of("a-b1-c1-d1;a-e1-f1-c1;b-g1-h1-d1;a-i1-j1-k1-l1-b1");
+        due("a way given up", back.most(0, 3, 0), 2);
+        due("a way given up: the side", back.most(0, 3, 1), 0xF37);
+
         says(11, "how much can come a MINUTE from one CORNER to another one by PIPES, no more than WIDTH by each");
         SorrowPipes full = of("a" + "-p99-a99".repeat(12));
         due("24 pipes of 99", full.most(0, 15, 0), 24 * 99);
         due("24 pipes of 99: the side", full.most(15, 0, 1), 1 << 15);
+        due("the narrowest is the first", of("a-b3-c9").most(0, 2, 0), 3);
+        due("the narrowest is the last", of("a-b3-c9").most(2, 0, 0), 3);
         due("15 pipes of 1", of(LINE).most(0, 15, 0), 1);
         due("15 pipes of 1: the side", of(LINE).most(15, 0, 1), 1 << 15);
     }
@@ -193,6 +201,7 @@ public final class SorrowPipesStreetEdges extends Dues {
         due("99", of("a-b99").widest(1, 0), 99);
         due("of two pipes the wider", of("a-b5-a6").widest(0, 1), 6);
         due("round about by 15", of(LINE.replace("1", "9") + "-a8").widest(0, 15), 9);
+        due("round about by 15, told from the far end", of("p-o9-n9-m9-l9-k9-j9-i9-h9-g9-f9-e9-d9-c9-b9-a9").widest(0, 15), 9);
         due("not the narrower way", of("a-b99-c2;a-d3-c3").widest(0, 2), 3);
     }
 
@@ -336,7 +345,11 @@ public final class SorrowPipesStreetEdges extends Dues {
 
         says(18, "OPEN PIPES, as few as can be, by which all that hang together still do, of the most WIDTH in all: that WIDTH.");
         due("as few as can be, though more were wider", of("a-b1-c1;a-c1").keptOpen(), 2);
-        due("two groups", of("a-b1-a2;c-d3-e4-c5").keptOpen(), 2 + 9);
+        SorrowPipes two = of("a-b1-a2;c-d3-e4-c5");
+        due("two groups", two.keptOpen(), 2 + 9);
+        due("the same again", two.keptOpen(), 2 + 9);
+        town(two, "b-a3-c4");
+        due("another town", two.keptOpen(), 7);
     }
 
     private static void farthestEdges() {
@@ -397,6 +410,7 @@ public final class SorrowPipesStreetEdges extends Dues {
         due("two pipes, one closed", of("a-b1-a1", "#1!").ring(0), -2);
         due("one pipe there and back is none", of("a-b1").ring(0), -2);
         due("the lesser of two", of("a-b1-c1-a1;a-d1-e1-f1-a1").ring(0), 3);
+        due("the lesser of two, told last", of("a-d1-e1-f1-a1;a-b1-c1-a1").ring(0), 3);
         due("the greater where it goes through", of("a-b1-c1-a1;a-d1-e1-f1-a1").ring(4), 4);
         due("by a way to a ring and back", of("a-b1;b-c1-b1").ring(0), -2);
     }
@@ -480,6 +494,10 @@ public final class SorrowPipesStreetEdges extends Dues {
         due("sum 16319: eighths", ways(16319, 1, most), -2);
         due("sum 16065", ways(16065, 0, most), 8);
         due("sum 16065: eighths", ways(16065, 1, most), 63);
+        due("sum 8160 by half of them", ways(8160, 0, 255, 255, 255, 255, 0, 0, 0, 0), 6561);
+        due("sum 8161 by half of them", ways(8161, 0, 255, 255, 255, 255, 0, 0, 0, 0), 0);
+        due("sum 8160 by the other half", ways(8160, 1, 0, 0, 0, 0, 255, 255, 255, 255), 32);
+        due("sum 16320 by half of them", ways(16320, 1, 0, 0, 0, 0, 255, 255, 255, 255), -2);
         due("sum 0 of 255", ways(0, 0, most), 1);
         due("sum 0 of 255: eighths", ways(0, 1, most), 0);
         int[] nothing = new int[8];
@@ -505,6 +523,10 @@ public final class SorrowPipesStreetEdges extends Dues {
         feedBytes(x, 3, 5, 7);
         due("the first n bytes alone", x.byEighths(2, 15, 0), 2);
         due("the rest is gone, too", x.count(6), 0);
+        feedBytes(x, 4, 4);
+        due("what was reckoned ahead counts no more", x.byEighths(2, 15, 0), 0);
+        feedBytes(x, 15, 15);
+        due("what was reckoned ahead counts no more", x.byEighths(2, 15, 0), 2);
     }
 
     private static void eighthsRefused() {
@@ -552,6 +574,10 @@ public final class SorrowPipesStreetEdges extends Dues {
             feedBytes(y, 0, 255, 9, 9, 255, 0);
             due("more went out, like much: readings(" + what + ")", y.readings(what), nowhere[what]);
         }
+        SorrowPipes one = of("p");
+        feedBytes(one, 2, 1);
+        due("one CORNER", one.readings(0), 1 << 15);
+
         says(24, "where that is most more (of like ones the lowest)");
         SorrowPipes x = of("b;d;p");
         feedBytes(x, 5, 4, 255, 250, 7, 2);
@@ -725,5 +751,39 @@ public final class SorrowPipesStreetEdges extends Dues {
         due("most", x.most(0, 3, 0), 8);
         due("against the way it was told", x.steps(1, 3), 2);
         due("groups", x.count(10), 2);
+    }
+
+    /** Two rings of eight, each corner joined to the one across: all corners, all pipes, and all corners are alike. */
+    private static void fullTown() {
+        says(4, "PIPES (24 at most)");
+        SorrowPipes x = of("a-b1-c1-d1-e1-f1-g1-h1-a1;i-j1-k1-l1-m1-n1-o1-p1-i1;a-i1;b-j1;c-k1;d-l1;e-m1;f-n1;g-o1;h-p1");
+        due("PIPES", x.count(2), 24);
+        due("OPEN ones", x.count(3), 24);
+        due("groups", x.count(10), 1);
+        due("bridges", x.bridges(0), 0);
+        due("brigades", x.brigades(1, 0), 5);
+        due("brigades: bits", x.brigades(1, 1), 1);
+        due("keptOpen", x.keptOpen(), 15);
+        int[] far = {5, 0, 12};
+        for (int what = 0; what <= 2; what++) {
+            due("farthest(" + what + ")", x.farthest(what), far[what]);
+        }
+        for (int c = 0; c < 16; c++) {
+            due("OPEN PIPES of " + c, x.cornerIs(c, 4), 3);
+            due("painted(" + c + ")", x.painted(c), 32);
+            due("ring(" + c + ")", x.ring(c), 4);
+            due("longest(" + c + ", 0)", x.longest(c, 0), 15);
+            due("most(" + c + ", " + (15 - c) + ", 0)", x.most(c, 15 - c, 0), 3);
+            due("most(" + c + ", " + (15 - c) + ", 1)", x.most(c, 15 - c, 1), 1 << c);
+            due("cut(" + c + ", " + (15 - c) + ")", x.cut(c, 15 - c), 3);
+            due("widest(" + c + ", " + (15 - c) + ")", x.widest(c, 15 - c), 1);
+        }
+        due("longest(0, 1)", x.longest(0, 1), 1);
+        law(x, "r5(c=7);rm+n(c=15);r0(1=1)");
+        due("n and m of 24 pipes: 5 rise at h, 5 and 3 at p", x.tried(1, 1), 9999 - 13);
+        orders(x, "#23!");
+        due("the last PIPE closed", x.cornerIs(15, 4), 2);
+        due("the last PIPE closed: its other end", x.cornerIs(7, 5), 1 | 1 << 6);
+        due("OPEN ones", x.count(3), 23);
     }
 }

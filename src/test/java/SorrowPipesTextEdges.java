@@ -42,6 +42,7 @@ public final class SorrowPipesTextEdges extends Dues {
         ordersNotThere();
         ordersFirstFault();
         ordersBounds();
+        ordersChangeNothingElse();
         ordersFaultDoesNothing();
         areInDocument(args);
         end("the edges of texts hold");
@@ -210,6 +211,7 @@ public final class SorrowPipesTextEdges extends Dues {
         says(3, "4 a 17th RULE, at its letter (if that can stand there)");
         String sixteen = "x(1=1);".repeat(14) + "r1(1=1);o1(1=1)";
         due("16 rules", law(new SorrowPipes(), sixteen), 16);
+        due("the 16th counts", of("a", "a@1", "r2(1=2);".repeat(15) + "r9(1=1)").tried(1, 1), 9990);
         int place = sixteen.length() + 1;
         for (int b = 0; b < 256; b++) {
             int want = b == 'r' || b == 'o' || b == 'x' ? -4000 - place : -1000 - place;
@@ -268,7 +270,7 @@ public final class SorrowPipesTextEdges extends Dues {
     private static void lawInPlace() {
         says(3, "in place of the one before: how many RULES");
         SorrowPipes x = of("a", "a@1");
-        due("three", law(x, "x(1=1);r7(1=1);o9(1=1)"), 3);
+        due("three", law(x, "r7(1=1);x(1=1);o9(1=1)"), 3);
         due("three: the rise", x.tried(1, 10), 7);
         due("one", law(x, "o2(1=1)"), 1);
         due("count(5)", x.count(5), 1);
@@ -712,6 +714,23 @@ public final class SorrowPipesTextEdges extends Dues {
         due("the sea", x.count(4), 0);
         due("the most", orders(x, "~999999"), 1);
         due("the sea", x.count(4), 999999);
+    }
+
+    /** A line and the one that takes it back leave all as it was, so each changes what it names and nothing else. */
+    private static void ordersChangeNothingElse() {
+        says(5, "a letter, then @ and a digit 0 to 8 (TURN), or + or - and a number (SORROW more or less; "
+                + "beyond 0 to 9999 the bound); or # and a number (PIPE) and ! (CLOSED) or ? (OPEN); "
+                + "or ~ and a number (126: THE SEA)");
+        SorrowPipes x = rich();
+        String before = seen(x);
+        String[] there = {"b@7", "c+8", "a-1", "#0!", "#1?", "~77"};
+        String[] back = {"b@3", "c-8", "a+1", "#0?", "#1!", "~" + x.count(4)};
+        for (int i = 0; i < there.length; i++) {
+            due("orders " + there[i], orders(x, there[i]), 1);
+            due("something is other by " + there[i], seen(x).equals(before), false);
+            due("orders " + back[i], orders(x, back[i]), 1);
+            stays(back[i], x, before, 0);
+        }
     }
 
     private static void ordersFaultDoesNothing() {
