@@ -30,6 +30,7 @@ public final class SorrowPipesStreetEdges extends Dues {
         questionsChangeNothing();
         onlyOpenPipes();
         fullTown();
+        townsOfTheirOwn();
         areInDocument(args);
         end("the edges of streets hold");
     }
@@ -785,5 +786,26 @@ public final class SorrowPipesStreetEdges extends Dues {
         due("the last PIPE closed", x.cornerIs(15, 4), 2);
         due("the last PIPE closed: its other end", x.cornerIs(7, 5), 1 | 1 << 6);
         due("OPEN ones", x.count(3), 23);
+    }
+
+    private static void townsOfTheirOwn() {
+        says(1, "All memory is the town's own.");
+        SorrowPipes x = rich();
+        String before = seen(x);
+        SorrowPipes other = of("a-p9", "a+9;p@8;#0!;~7", "x(1=1)");
+        other.seed(5);
+        other.keep();
+        other.minutes(100);
+        other.undo();
+        feedBytes(other, like(240, 7));
+        stays("another town's calls", x, before, 20);
+        due("what the other one kept is not this one's", x.undo(), false);
+
+        says(1, "An object is used for at most 512 calls after it has been made");
+        SorrowPipes old = new SorrowPipes();
+        for (int call = 1; call <= 511; call++) {
+            old.minutes(1);
+        }
+        due("the 512th call", old.count(0), 511);
     }
 }
