@@ -914,26 +914,38 @@ public final class SorrowPipes {
         }
 
         private boolean readTest(Tape text, int opened) {
+            int inside = opened;
+            while (inside < DEEPEST && text.peek() == '!') {
+                text.at++;
+                inside++;
+            }
             int sign = text.peek();
-            if (sign == '!' || sign == '(') {
-                if (opened >= DEEPEST) {
-                    return text.refuse(ONE_TOO_MANY, text.at);
+            if (inside >= DEEPEST && (sign == '!' || sign == '(')) {
+                return text.refuse(ONE_TOO_MANY, text.at);
+            }
+            if (sign == '(') {
+                text.at++;
+                if (!readCondition(text, inside + 1) || !text.demands(')')) {
+                    return false;
+                }
+            } else {
+                if (!readSum(text, inside)) {
+                    return false;
+                }
+                int than = text.peek();
+                if (than != '<' && than != '>' && than != '=') {
+                    return text.refuse(MISPLACED, text.at);
                 }
                 text.at++;
-                if (sign == '(') {
-                    return readCondition(text, opened + 1) && text.demands(')');
+                if (!readSum(text, inside)) {
+                    return false;
                 }
-                return readTest(text, opened + 1) && write('!', 0) != NONE;
+                write(than, 0);
             }
-            if (!readSum(text, opened)) {
-                return false;
+            for (int nots = opened; nots < inside; nots++) {
+                write('!', 0);
             }
-            int than = text.peek();
-            if (than != '<' && than != '>' && than != '=') {
-                return text.refuse(MISPLACED, text.at);
-            }
-            text.at++;
-            return readSum(text, opened) && write(than, 0) != NONE;
+            return true;
         }
 
         private boolean readSum(Tape text, int opened) {
@@ -1580,22 +1592,22 @@ public final class SorrowPipes {
         void goFar(int c) {
             gone = 0;
             end = c;
-            goOn(c, net.measureFrom(c) & ~(1 << c), 0);
+            goOn(this, c, net.measureFrom(c) & ~(1 << c), 0);
         }
 
-        private void goOn(int c, int unseen, int depth) {
-            if (depth > gone || depth == gone && c < end) {
-                gone = depth;
-                end = c;
+        private static void goOn(Walks found, int c, int unseen, int depth) {
+            if (depth > found.gone || depth == found.gone && c < found.end) {
+                found.gone = depth;
+                found.end = c;
             }
-            if (depth >= CORNERS || depth + Integer.bitCount(unseen) < gone) {
+            if (depth >= CORNERS || depth + Integer.bitCount(unseen) < found.gone) {
                 return;
             }
-            int rest = net.near[c] & unseen;
+            int rest = found.net.near[c] & unseen;
             for (int i = 0; i < CORNERS && rest != 0; i++) {
                 int next = lowest(rest);
                 rest &= rest - 1;
-                goOn(next, unseen & ~(1 << next), depth + 1);
+                goOn(found, next, unseen & ~(1 << next), depth + 1);
             }
         }
     }

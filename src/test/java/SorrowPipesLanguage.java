@@ -133,9 +133,25 @@ public final class SorrowPipesLanguage {
                 methods++;
             } else if (lines[i].equals(indent + "}")) {
                 must(i - start < 60, "short: " + lines[start]);
+                callsItselfOnlyIfStatic(lines, start, i);
             }
         }
         must(methods > 100, "all methods were met: " + methods);
+    }
+
+    /** Rule 8: "a private static method that calls itself"; others may only call one another. */
+    private static void callsItselfOnlyIfStatic(String[] lines, int start, int end) {
+        Matcher header = Pattern.compile("(\\w+)\\(").matcher(lines[start]);
+        if (!header.find()) {
+            return;
+        }
+        Pattern itself = Pattern.compile("(?<![.\\w])" + header.group(1) + "\\(");
+        for (int i = start + 1; i < end; i++) {
+            if (itself.matcher(lines[i]).find()) {
+                boolean isFine = lines[start].trim().startsWith("private static ");
+                must(isFine, "only a private static method calls itself: " + lines[start].trim());
+            }
+        }
     }
 
     /** No call throws, for any arguments in any state. */
